@@ -406,6 +406,9 @@ public final class PromiseTests {
         x.egg(1, NEED, 1);
         act(x, "A..A");
         sayAnew(x, "B..2!");
+        EggOrder y = coop(1);
+        say(y, "A...");
+        due("EGG 0", y.hatched(0), 3);
         due("ahead", x.hatched(0), 0);
         due("HOUR 1", x.hatched(1), 1);
         due("eaten", x.hatched(2), -6);
@@ -502,7 +505,8 @@ public final class PromiseTests {
         due("right ahead", x.clue(1, 0, 1), 2);
         due("at", x.clue(2, 0, 0), 3);
         due("not at, the same number", x.clue(3, 1, 1), 4);
-        for (int i = 5; i <= 12; i++) due("CLUE " + i, x.clue(0, 0, 1), i);
+        due("not at the last", x.clue(3, 0, 2), 5);
+        for (int i = 6; i <= 12; i++) due("CLUE " + i, x.clue(0, 0, 1), i);
         due("FULL", x.clue(0, 0, 1), -4);
         due("OUTSIDE ahead of FULL", x.clue(3, 0, 3), -2);
         due("UNKNOWN ahead of FULL", x.clue(0, 0, 0), -1);
@@ -574,6 +578,9 @@ public final class PromiseTests {
         y.clue(1, 0, 1);
         y.clue(1, 2, 1);
         due("two right ahead of one", y.fits(-1), 0);
+        y.forget(0);
+        y.clue(1, 0, 1);
+        due("0 right ahead of 1", y.fits(-1), 2);
     }
 
     private static void fitsBySights() {
@@ -590,8 +597,12 @@ public final class PromiseTests {
         due("0 is first", x.fits(-1), 2);
         sayAnew(x, "ABC...0B");
         due("carried when hatched", x.fits(-1), 0);
+        sayAnew(x, "A.0B");
+        due("carried right when hatched", x.fits(-1), 0);
         sayAnew(x, "ABC0B...");
         due("carried ahead", x.fits(-1), 2);
+        sayAnew(x, "B0B.");
+        due("warmed where it was carried", x.fits(-1), 2);
         sayAnew(x, "AB...");
         x.forget(1);
         x.seen(2, 0);
@@ -646,6 +657,9 @@ public final class PromiseTests {
         x.clue(0, 0, 1);
         x.clue(3, 2, 0);
         due("two", x.firsts(), 9);
+        x.clue(2, 3, 0);
+        x.clue(2, 1, 2);
+        due("by one order alone", x.firsts(), 8);
         x.clue(0, 1, 0);
         due("nothing", x.firsts(), 0);
         x.seen(0, 0);
@@ -670,6 +684,10 @@ public final class PromiseTests {
         due("both are one", x.certain(1, 1), -1);
         x.clue(0, 0, 2);
         due("nothing", x.certain(2, 0), -6);
+        EggOrder y = coop(3);
+        y.clue(1, 0, 1);
+        y.clue(3, 2, 2);
+        due("a beginning that nothing ends", y.certain(2, 0), 1);
         x.seen(0, 0);
         say(x, "0!");
         due("NO", x.certain(2, 0), -5);
@@ -689,6 +707,13 @@ public final class PromiseTests {
         x.clue(2, 2, 0);
         due("all the same", x.ask(0), 0);
         due("how many", x.ask(1), 1);
+        EggOrder y = coop(3);
+        y.clue(0, 1, 2);
+        y.clue(3, 0, 2);
+        due("0 and 1 ahead of 2", y.ask(0) * 10 + y.ask(1), 1);
+        y.forget(0);
+        y.clue(0, 2, 0);
+        due("1 at three places", y.ask(0), 1);
         due("what 2", x.ask(2), -2);
         due("what -1", x.ask(-1), -2);
         x.clue(0, 1, 0);
@@ -716,6 +741,9 @@ public final class PromiseTests {
         act(x, "3!");
         due("none is whole", x.mend(0), 0);
         due("which", x.mend(1), 0);
+        EggOrder y = coop(2);
+        act(y, "0!");
+        due("only the last is whole", y.mend(1), 1);
         due("what 2", x.mend(2), -2);
         due("what -1", x.mend(-1), -2);
     }
