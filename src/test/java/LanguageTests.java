@@ -6,14 +6,16 @@ import java.lang.reflect.Modifier;
 import java.nio.file.Files;
 import java.nio.file.Path;
 import java.util.Arrays;
+import java.util.Map;
 import java.util.Set;
+import java.util.TreeMap;
 import java.util.TreeSet;
 import java.util.regex.Matcher;
 import java.util.regex.Pattern;
 
 /** The rules of ../shared/LANGUAGE.md that the text and the compiled class can show. */
 public final class LanguageTests {
-    private static final int LONGEST_METHOD = 60;
+    private static final int LONGEST_METHOD = 60, DEEPEST_CALL = 8;
     private static final String[] FORBIDDEN = {"import", "package", "throw", "throws", "try", "catch", "finally",
         "synchronized", "assert", "native", "volatile", "transient", "instanceof", "Object", "Random", "System",
         "Thread", "equals", "hashCode", "toString", "float", "double"};
@@ -22,6 +24,10 @@ public final class LanguageTests {
         + "seen(int,int) forget(int) fits(int) places(int) firsts() certain(int,int) ask(int) mend(int) "
         + "soonest(int) rests(int,int) shapley(int,int) hope(int,int,int) year(int,int,int) image(int) "
         + "restore(int) told(int)";
+
+    /** 1 what stands ahead of it, 2 its name, 3 its body. */
+    private static final Pattern METHOD = Pattern.compile(
+        "(?m)^( +)(?:public|private)[^;=\n]*?(\\w+)\\([^;=\n]*\\) \\{\n(?s:(.*?))\n\\1\\}$");
 
     private static int wrong = 0;
 
@@ -32,6 +38,8 @@ public final class LanguageTests {
         face();
         classes();
         lengths(text);
+        rows(code);
+        depths(code);
         System.out.println(wrong == 0 ? "the rules hold" : wrong + " rules are broken");
         if (wrong != 0) System.exit(1);
     }
@@ -98,12 +106,51 @@ public final class LanguageTests {
     }
 
     private static void lengths(String text) {
-        Matcher m = Pattern.compile("(?m)^( +)(?:public|private)[^;=\n]*\\) \\{\n(?s:(.*?))\n\\1\\}$").matcher(text);
+        Matcher m = METHOD.matcher(text);
         int methods = 0;
         while (m.find()) {
             methods++;
-            hold(m.group(2).lines().count() <= LONGEST_METHOD, "rule 11: a long method at " + m.start());
+            hold(m.group(3).lines().count() <= LONGEST_METHOD, "rule 11: a long method at " + m.start());
         }
         hold(methods > 80, "rule 11: only " + methods + " methods were found");
+    }
+
+    /** Rows are made with the objects alone, so that no run makes many; an index is looked at where it is used. */
+    private static void rows(String code) {
+        for (String line : code.split("\n")) {
+            boolean isOfField = line.matches("\\s+private (static )?final .* = new .*");
+            hold(!line.contains("new ") || isOfField, "rule 12: a call makes an object: " + line.strip());
+            String text = line.replaceAll("new \\w+\\[", "");
+            boolean isLookedAt = text.contains(".length");
+            hold(!Pattern.compile("\\w\\[[^\\]]").matcher(text).find() || isLookedAt, "rule 7: an index: " + line.strip());
+        }
+    }
+
+    /** Methods are told apart by their names alone: those of one name are taken together. */
+    private static void depths(String code) {
+        Map<String, String> bodies = new TreeMap<>();
+        Matcher m = METHOD.matcher(code);
+        while (m.find()) bodies.merge(m.group(2), m.group(3), String::concat);
+        hold(bodies.size() > 80, "rule 11: only " + bodies.size() + " names of methods were found");
+        Map<String, Set<String>> calls = new TreeMap<>();
+        for (String name : bodies.keySet()) {
+            Set<String> called = new TreeSet<>();
+            Matcher call = Pattern.compile("\\b(\\w+)\\(").matcher(bodies.get(name));
+            while (call.find()) if (bodies.containsKey(call.group(1))) called.add(call.group(1));
+            calls.put(name, called);
+        }
+        for (String name : calls.keySet()) {
+            int depth = depth(name, calls, new TreeSet<>());
+            hold(depth <= DEEPEST_CALL, "rule 11: " + name + " goes " + depth + " deep");
+        }
+    }
+
+    /** A method that is open already is a recursion: it does not count again. */
+    private static int depth(String name, Map<String, Set<String>> calls, Set<String> open) {
+        if (!open.add(name)) return 0;
+        int deepest = 0;
+        for (String called : calls.get(name)) deepest = Math.max(deepest, depth(called, calls, open));
+        open.remove(name);
+        return deepest + 1;
     }
 }
