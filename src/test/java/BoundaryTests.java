@@ -926,6 +926,18 @@ public final class BoundaryTests {
         due("none ahead of it", x.stops(1), 2);
         sayAnew(x, "0!2!0+.");
         due("a mended one does not wait", x.stops(1), 2);
+        sentence("IN VAIN: farther on than the first that is not hatched, to the last of the ORDER and no farther");
+        for (int n = 1; n <= 7; n++) {
+            for (int stopping = 0; stopping < n; stopping++) {
+                EggOrder y = coop(n);
+                lay(y, stopping + "0123456".substring(0, n).replace("" + stopping, ""));
+                y.egg(stopping, WARMTH, 9);
+                due(stopping + " of " + n + " stops", y.stops(0), stopping);
+                due(stopping + " of " + n + " is not behind itself", y.stops(1), 0);
+                for (int egg = 0; egg < n; egg++) y.egg(egg, WARMTH, 9);
+                due("all of " + n + " behind " + stopping, y.stops(1), (1 << n) - 1 - (1 << stopping));
+            }
+        }
     }
 
     private static void weeksDone() {
